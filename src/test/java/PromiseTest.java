@@ -127,6 +127,7 @@ public final class PromiseTest {
             due(3, "numbers", s.note(1, 1, NONE, 0, 0), i);
         }
         due(3, "301st", s.note(1, 2, NONE, 0, 0), NONE);
+        due(4, "too high", s.undo(300), false);
         due(3, "undone ones count", s.undo(0), true);
         due(3, "301st", s.note(1, 2, NONE, 0, 0), NONE);
         due(3, "did nothing", s.state(1, 4, 4, 0), 1);
@@ -318,6 +319,11 @@ public final class PromiseTest {
         s.note(3, 4, NONE, 5, 0);
         due(10, "two exits", s.cutOff(0), 0);
         due(10, "two exits", s.cutOff(1), 0);
+        SixAcres above = block(0, 4, 0, 1, 5, 0, 49, 5, 2, 48, 4, 3);
+        above.door(0, 1, 1);
+        above.door(48, 49, 1);
+        due(10, "a passage above is no exit", above.cutOff(49), 3);
+        due(10, "by a stair", above.cutOff(1), 5);
         due(10, "none such", s.cutOff(-1), NONE);
         due(10, "none such", s.cutOff(240), NONE);
         due(10, "none such", s.cutOff(MOST), NONE);
@@ -485,7 +491,7 @@ public final class PromiseTest {
             {"pay home 1 if floor;", 19}, {"pay home 1 if not not 1=1;", NONE}, {"pay home not 1;", 9},
             {"draw home 1+1;", 11}, {"draw home floor;", 10}, {"draw home 1 if 1=1;", 12}, {"water tap 99999;", NONE},
             {"water water 1;", 6}, {"may\thome;", 3}, {"may home\r;", 8}, {"may home\n;\n", NONE}, {"may home;\0", 9},
-            {"may home;\u00e9", 9}, {"Xmay home;", 0}, {"may homE;", 4}, {"may home if 1 < 2 and", 21},
+            {"may home;\u00e9", 9}, {"Xmay home;", 0}, {"may homE;", 4}, {"may homez;", 4}, {"az", 0}, {"may home if 1 < 2 and", 21},
             {"may home 3;", 9}, {"if 1<2;", 0}, {"pay tap 1-2-3*4/5 if 1<2 and 2<3 or 3<4;", NONE}};
         for (Object[] t : texts) {
             due(17, "\"" + t[0] + "\"", faultOf((String) t[0]), (Integer) t[1]);
