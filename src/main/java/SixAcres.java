@@ -336,7 +336,7 @@ public final class SixAcres {
             return NONE;
         }
         if (wishes.asOf != changes) {
-            wishes.choose(notes, inForce, loads);
+            wishes.choose(wishes.allowedBits(notes, inForce), notes, loads);
             wishes.asOf = changes;
         }
         return what == 0 ? Integer.bitCount(wishes.chosen) : wishes.chosen;
@@ -1769,8 +1769,7 @@ public final class SixAcres {
             return size;
         }
 
-        void choose(Notes notes, Custom custom, Loads loads) {
-            int allowed = allowedBits(notes, custom);
+        void choose(int allowed, Notes notes, Loads loads) {
             chosen = 0;
             loads.startTrial(notes);
             for (int bits = 1; bits < 1 << size; bits++) {
@@ -1782,7 +1781,7 @@ public final class SixAcres {
             }
         }
 
-        private int allowedBits(Notes notes, Custom custom) {
+        int allowedBits(Notes notes, Custom custom) {
             int bits = 0;
             for (int i = 0; i < size; i++) {
                 if (notes.kindNow[cellOf[i]] == SPACE && custom.allows(notes, cellOf[i], kindOf[i]) != NONE) {

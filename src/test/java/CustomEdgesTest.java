@@ -37,6 +37,8 @@ public final class CustomEdgesTest {
         belowAndSky();
         statementNumbers();
         noSuchMay();
+        words();
+        comparisons();
         held();
         division();
         payAtLeastNothing();
@@ -187,6 +189,13 @@ public final class CustomEdgesTest {
         SixAcres bare = new SixAcres();
         Edges.tell(bare, "draw tap 8");
         E.due("bare still", bare.rule(6, 0), 2);
+        for (int i = 0; i < 10; i++) {
+            E.due("a long one with a fault", Edges.tell(bare, "pay home 1" + times(230, "+1")), NONE);
+            E.due("one with open ones", Edges.tell(bare, "pay home " + times(10, "(")), NONE);
+        }
+        bare.note(3, 1, NONE, 0, 0);
+        E.due("none of them is left", Edges.tell(bare, "pay home " + times(9, "(") + "8" + times(9, ")") + "-1;"), 0);
+        E.due("none of them is left", bare.pay(3), 7);
     }
 
     private static void toldLast() {
@@ -200,6 +209,11 @@ public final class CustomEdgesTest {
         E.due("nothing of the old", s.pay(0), 0);
         Edges.tell(s, "may tap;may shop;");
         E.due("the new one", s.may(0, 2), 1);
+        Edges.tell(s, "may home if not 1<2;");
+        Edges.tell(s, "may tap;");
+        E.due("nothing of the old", s.may(0, 2), NONE);
+        Edges.tell(s, "may home if 1<2;");
+        E.due("nothing of the old", s.may(0, 1), 0);
     }
 
     private static void latestFault() {
@@ -358,6 +372,9 @@ public final class CustomEdgesTest {
         TextsTest.tape(s, "may home;");
         E.due("cut within a word", s.custom(6), NONE);
         E.due("cut within a word", s.fault(), 4);
+        TextsTest.tape(s, "may homes;");
+        E.due("a word as far as n goes", s.custom(8), NONE);
+        E.due("a word as far as n goes", s.fault(), 8);
         TextsTest.tape(s, times(25, "may tap if 1<2 and  "));
         s.custom(500);
         E.due("all the tape", s.fault(), 20);
@@ -496,8 +513,11 @@ public final class CustomEdgesTest {
         s.note(3, 1, 7, 5, 0);
         s.day(9);
         Edges.tell(s, "may home if people=0;may shop if since=0;may roof if owner=0-1;may tap if owner<0 and people+since=0;");
+        E.due("asked of what is there", s.pay(3), 0);
         E.due("people", s.may(3, 1), 0);
+        s.pay(3);
         E.due("since", s.may(3, 2), 1);
+        s.pay(3);
         E.due("owner", s.may(3, 3), 2);
         E.due("in space", s.may(4, 6), 3);
     }
@@ -558,6 +578,36 @@ public final class CustomEdgesTest {
 
     private static void pays(String ex, int want) {
         E.due(ex, payOf(ex), want);
+    }
+
+    private static void words() {
+        E.sentence(20, "Asked of a CELL: floor; people; since .. below .. sky .. owner");
+        pays("floor", 1);
+        pays("people", 6);
+        pays("since", 5);
+        pays("below", 2);
+        pays("sky", 1);
+        pays("owner", 17);
+    }
+
+    private static void comparisons() {
+        E.sentence(20, "EX (\"<\" | \">\" | \"=\") EX .. \"not\" ONE .. ALL .. ANY");
+        for (int a = 1; a <= 3; a++) {
+            pays("7 if " + a + "<2", a < 2 ? 7 : 0);
+            pays("7 if " + a + ">2", a > 2 ? 7 : 0);
+            pays("7 if " + a + "=2", a == 2 ? 7 : 0);
+            pays("7 if not " + a + "<2", a < 2 ? 0 : 7);
+            pays("7 if not " + a + ">2", a > 2 ? 0 : 7);
+            pays("7 if not " + a + "=2", a == 2 ? 0 : 7);
+            pays("7 if not not " + a + ">2", a > 2 ? 7 : 0);
+        }
+        pays("7 if not 1=2 and 1=2", 0);
+        pays("7 if not {1=2 and 1=1}", 7);
+        pays("7 if 1=1 or 1=1 and 1=2", 7);
+        pays("7 if {1=1 or 1=1} and 1=2", 0);
+        pays("7 if 1=2 or 1=2 or not 1=2", 7);
+        pays("7 if 1=1 and 1=1 and not 1=1", 0);
+        pays("7 if not 1=1 or 1=1", 7);
     }
 
     private static void held() {

@@ -22,6 +22,7 @@ public final class FiresEdgesTest {
         wallsWithoutADoor();
         wallsOfRooms();
         firstWall();
+        wallsFarOff();
         fireGoesByItToo();
         noneSavesMore();
         noSuchWall();
@@ -35,11 +36,13 @@ public final class FiresEdgesTest {
         noneBroken();
         leastBits();
         allEight();
+        metAnew();
         noSuchMet();
         clear();
         goesFromTheTop();
         goesWithItsPeople();
         tillNoneCan();
+        goesAnew();
         allGo();
         noSuchGoes();
         counts();
@@ -203,6 +206,8 @@ public final class FiresEdgesTest {
         two.door(2, 3, 1);
         E.due("both have", two.saved(40), 7);
         E.due("the other exit burns", two.saved(3), 3);
+        SixAcres first = Edges.openDoors(Edges.block(0, 1, 3, 1, 4, 0, 8, 1, 4, 40, 7, 0), 0, 1, 0, 8);
+        E.due("in cell 0 and by it", first.saved(40), 7);
     }
 
     private static void savedFarOff() {
@@ -268,6 +273,22 @@ public final class FiresEdgesTest {
         E.due("the greater one", t.wall(40), 240 * 6 + 14);
         SixAcres most = Edges.block(0, 4, 0, 1, 1, 3, 7, 4, 0, 6, 1, 4, 40, 7, 0);
         E.due("the one that saves most", most.wall(40), 240 * 6 + 7);
+    }
+
+    private static void wallsFarOff() {
+        E.sentence(34, "the two of which it would save most");
+        SixAcres one = Edges.block(0, 1, 1, 1, 4, 0, 40, 7, 0);
+        E.due("one alone, in cell 0", one.wall(40), 1);
+        SixAcres late = Edges.openDoors(Edges.block(0, 1, 0, 1, 4, 0, 2, 1, 3), 0, 1);
+        E.due("in the exit at 1, it burns at 2", late.wall(0), 240 + 2);
+        SixAcres far = Edges.openDoors(Edges.block(1, 4, 0, 2, 1, 0, 3, 1, 0, 9, 1, 0, 17, 1, 0, 25, 1, 1), 1, 2, 2, 3, 9, 17, 17, 25);
+        E.due("in the exit at 3, it burns at 4", far.wall(3), 240 + 9);
+        far.door(17, 25, 0);
+        far.note(24, 1, NONE, 2, 0);
+        Edges.openDoors(far, 25, 24);
+        E.due("two walls are between", far.wall(3), NONE);
+        SixAcres by = Edges.openDoors(Edges.block(0, 1, 0, 1, 1, 0, 2, 4, 0, 8, 1, 2, 40, 7, 0), 8, 0, 0, 1);
+        E.due("by cell 0", by.wall(40), 240 + 2);
     }
 
     private static void fireGoesByItToo() {
@@ -433,6 +454,13 @@ public final class FiresEdgesTest {
         s.wish(101, 1);
         E.due("beside what falls it falls", s.met(1), 1);
         E.due("what falls NOW is no hindrance", s.count(10), 2);
+        SixAcres other = Edges.block(0, 3, 0);
+        Edges.tell(other, "may home;may shop;");
+        other.wish(48, 2);
+        other.wish(1, 1);
+        E.due("too heavy just so", other.met(1), 2);
+        other.weigh(2, 16, 50);
+        E.due("not too heavy", other.met(1), 3);
         SixAcres last = new SixAcres();
         Edges.tell(last, "may home;");
         last.wish(239, 1);
@@ -467,6 +495,26 @@ public final class FiresEdgesTest {
         s.note(7, 1, NONE, 0, 0);
         E.due("nor the last", s.met(1), 126);
         E.due("six", s.met(0), 6);
+    }
+
+    private static void metAnew() {
+        E.sentence(36, "as the block is NOW");
+        SixAcres s = Edges.block(0, 3, 0, 49, 1, 0, 1, 1, 0);
+        s.wish(48, 1);
+        E.due("bare", s.met(1), 0);
+        Edges.tell(s, "may home;");
+        E.due("after custom", s.met(1), 1);
+        s.weigh(1, 17, 60);
+        E.due("after weigh", s.met(1), 0);
+        s.note(0, 7, NONE, 0, 0);
+        E.due("after note", s.met(1), 1);
+        s.undo(3);
+        E.due("after undo", s.met(1), 0);
+        s.wish(48, 1);
+        s.wish(2, 1);
+        E.due("after wish", s.met(1), 4);
+        s.clear();
+        E.due("after clear", s.met(1), 0);
     }
 
     private static void noSuchMet() {
@@ -532,6 +580,26 @@ public final class FiresEdgesTest {
         dueOrder("nobody is under it", s, 3, 20, 49, 1, 50, 2);
         E.due("nothing went", s.state(3, 0, 0, 0), 4);
         dueOrder("an empty block", new SixAcres());
+        s.note(1, 5, NONE, 2, 0);
+        s.note(20, 0, NONE, 0, 0);
+        dueOrder("none again", s);
+    }
+
+    private static void goesAnew() {
+        E.sentence(38, "as the block is NOW .. then on from there");
+        SixAcres s = Edges.block(0, 4, 0, 1, 1, 2);
+        dueOrder("without a door", s, 0, 1);
+        s.door(0, 1, 1);
+        dueOrder("after door", s, 1, 0);
+        s.note(1, 1, NONE, 0, 0);
+        dueOrder("after note", s, 0, 1);
+        s.undo(2);
+        dueOrder("after undo", s, 1, 0);
+        s.door(0, 1, 2);
+        dueOrder("after door", s, 0, 1);
+        // Once the exit 0 went, those in 8 need the exit 1.
+        SixAcres two = Edges.openDoors(Edges.block(0, 4, 0, 1, 4, 0, 8, 1, 2, 9, 1, 0), 0, 8, 8, 9, 1, 9);
+        dueOrder("one exit went", two, 0, 8, 1, 9);
     }
 
     private static void allGo() {
@@ -563,7 +631,7 @@ public final class FiresEdgesTest {
     private static void counts() {
         E.sentence(39, "0 TODAY, 1 NOTES, 2 DOORS .. 11 how many GO");
         SixAcres s = Edges.town();
-        int[] due = {5, 15, 5, 17, 6, 1, 4, 3, 3, 20, 1, s.count(11)};
+        int[] due = {5, 15, 5, 17, 6, 1, 4, 3, 3, 20, 1, 14};
         for (int what = 0; what <= 11; what++) {
             E.due("count " + what, s.count(what), due[what]);
         }

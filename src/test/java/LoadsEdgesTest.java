@@ -104,6 +104,8 @@ public final class LoadsEdgesTest {
         }
         E.due("the ground's other end", s.load(47), 10);
         E.due("none falls", s.broken(0), NONE);
+        E.due("the first cell of floor 1 isn't on the ground", Edges.block(48, 1, 0).broken(0), 48);
+        E.due("nor is the last one", Edges.block(95, 1, 0).broken(0), 95);
         for (int kind = 1; kind <= 7; kind++) {
             E.due("on kind " + kind, Edges.block(0, kind, 0, 48, 3, 0).load(0), FIRST_WEIGHT[kind] + 4);
         }
@@ -175,6 +177,9 @@ public final class LoadsEdgesTest {
         s.note(9, 7, NONE, 0, 0);
         E.due("57 stands now and bears it", s.load(57), 10);
         E.due("no more on 56", s.load(56), 10);
+        SixAcres tower = Edges.block(0, 1, 0, 48, 1, 0, 96, 1, 0, 49, 3, 0, 97, 3, 0);
+        E.due("not what is above those beside", tower.load(96), 10);
+        E.due("those beside alone", tower.load(48), 10 + 10 + 8);
         SixAcres space = Edges.block(8, 1, 0, 57, 3, 0);
         E.due("space over a room doesn't bear", space.broken(0), 57);
         E.due("nor does what is under it", space.load(8), 10);

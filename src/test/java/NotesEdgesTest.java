@@ -252,6 +252,7 @@ public final class NotesEdgesTest {
     private static void noSuchNote() {
         E.sentence(4, "false: none such");
         E.due("none at all", new SixAcres().undo(0), false);
+        E.due("behind the last of all", fullOfNotes().undo(300), false);
         for (int note : new int[] {LEAST, -1, 15, 16, 299, 300, MOST}) {
             E.refused("undo " + note, Edges::town, s -> Edges.bit(s.undo(note)), 0);
         }
@@ -319,6 +320,12 @@ public final class NotesEdgesTest {
         }
         s.undo(2);
         E.due("one that isn't known any more", s.state(3, 20, 20, 3), 10);
+        E.due("ways go by the same", s.way(3, 3, 9999, 20), 0);
+        s.note(3, 7, NONE, 0, 8);
+        E.due("ways go by the same, told late", s.way(3, 3, 20, 20), 0);
+        E.due("ways go by the same, told late", s.way(3, 3, 9, 20), NONE);
+        E.due("ways go by the same, told late", s.way(3, 3, 7, 20), 0);
+        E.due("ways go by the same, before all", s.way(3, 3, 4, 20), NONE);
     }
 
     private static void toldLastOfOneDay() {

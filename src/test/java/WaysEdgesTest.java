@@ -30,6 +30,7 @@ public final class WaysEdgesTest {
         peopleOfOthers();
         nobodyCutOff();
         ifThatCellWereSpace();
+        allCellsAndOneExit();
         noSuchCutOff();
         E.end();
     }
@@ -198,6 +199,13 @@ public final class WaysEdgesTest {
         E.sentence(7, "NONE: no way, none such");
         SixAcres s = Edges.town();
         E.due("no way", s.way(0, 46, 5, 5), NONE);
+        SixAcres apart = Edges.openDoors(Edges.block(0, 1, 0, 1, 1, 0, 18, 1, 0, 19, 1, 0), 0, 1, 18, 19);
+        E.due("a way there", apart.way(18, 19, 0, 0), 1);
+        for (int c : new int[] {18, 19}) {
+            E.due("none from here to " + c, apart.way(0, c, 0, 0), NONE);
+            E.due("none back from " + c, apart.way(c, 1, 0, 0), NONE);
+            E.due("none from space to " + c, apart.way(30, c, 0, 0), NONE);
+        }
         for (int c : Edges.NO_CELLS) {
             E.due("from " + c, s.way(c, 0, 5, 5), NONE);
             E.due("to " + c, s.way(0, c, 5, 5), NONE);
@@ -291,6 +299,11 @@ public final class WaysEdgesTest {
             E.due("kind " + kind, s.out(0), kind == 4 ? 0 : NONE);
             E.due("kind " + kind, s.out(47), kind == 4 ? 0 : NONE);
         }
+        SixAcres apart = Edges.openDoors(Edges.block(9, 1, 0, 10, 1, 0, 11, 4, 0), 9, 10, 10, 11);
+        E.due("a way within", apart.way(9, 11, 0, 0), 2);
+        for (int c = 9; c <= 11; c++) {
+            E.due("none out of " + c, apart.out(c), NONE);
+        }
         SixAcres top = Edges.block(192, 4, 0, 239, 4, 0, 144, 4, 0, 96, 4, 0);
         E.due("floor 4", top.out(192), NONE);
         E.due("floor 4", top.out(239), NONE);
@@ -332,6 +345,12 @@ public final class WaysEdgesTest {
             E.due("no exit at all: " + c, s.cutOff(c), 0);
         }
         E.due("a new block", new SixAcres().cutOff(0), 0);
+        SixAcres above = Edges.openDoors(Edges.block(1, 4, 0, 2, 5, 0, 50, 5, 0, 49, 1, 6, 48, 4, 7), 1, 2, 49, 50, 48, 49);
+        E.due("a passage on floor 1 is no exit", above.cutOff(49), 7);
+        E.due("a passage on floor 1 is no exit", above.cutOff(50), 13);
+        SixAcres first = Edges.openDoors(Edges.block(0, 1, 3, 1, 4, 0, 8, 1, 4), 0, 1, 0, 8);
+        E.due("by cell 0", first.cutOff(0), 4);
+        E.due("cell 0 and what is behind it", first.cutOff(1), 7);
     }
 
     private static void ifThatCellWereSpace() {
@@ -352,6 +371,28 @@ public final class WaysEdgesTest {
         E.due("all that are left", many.cutOff(9), 38 * 9);
         E.due("all that are left", many.cutOff(8), 38 * 9);
         E.due("over other roofs", many.cutOff(18), 0);
+    }
+
+    private static void allCellsAndOneExit() {
+        E.sentence(10, "CUT OFF, with all CELLS on one way");
+        SixAcres s = new SixAcres();
+        for (int c = 0; c < 240; c++) {
+            s.note(c, c == 0 ? 4 : 5, NONE, 1, 0);
+        }
+        for (int x = 0; x < 7; x++) {
+            s.door(x, x + 1, 1);
+        }
+        for (int c = 0; c < 40; c++) {
+            s.door(c, c + 8, 1);
+        }
+        s.door(48, 49, 1);
+        E.due("all have a way", s.count(4), 240);
+        E.due("all but those in the exit", s.cutOff(0), 239);
+        E.due("41 whole stairs, and those above 0 and 1", s.cutOff(1), 41 * 5 + 8);
+        E.due("those above the exit", s.cutOff(49), 4 + 3);
+        E.due("the top of a column", s.cutOff(239), 0);
+        E.due("what is under it", s.cutOff(191), 1);
+        E.due("the foot of the last column", s.cutOff(47), 4);
     }
 
     private static void noSuchCutOff() {
